@@ -147,7 +147,7 @@ public final class TreeSchool {
         if (k < 0 || k >= TREE_LIMIT || k >= treeTotal()) {
             return NONE;
         }
-        finder.findByNumber(current, k);
+        finder.find(current, false, k);
         return hand.size;
     }
 
@@ -195,7 +195,7 @@ public final class TreeSchool {
             return NONE;
         }
         priceChart();
-        finder.findNearest(current);
+        finder.find(current, true, 0);
         return hand.size;
     }
 
@@ -384,8 +384,8 @@ public final class TreeSchool {
         }
     }
 
-    /** Reads a grammar's tokens one by one from the tape. */
-    private static final class Lexer {
+    /** A grammar's tokens, from the tape's first one to its end or to the first that is none. */
+    private static final class Tokens {
         private static final int NAME = 0;
         private static final int NUMBER = 1;
         private static final int EQUALS = 2;
@@ -403,56 +403,65 @@ public final class TreeSchool {
         private static final long IS_NAME = (9L << 5) | 19L;
 
         private final Tape tape;
-        private int next;
-        private int kind;
-        private int place;
-        private int digit;
-        private long letters;
+        private final int[] kind;
+        private final int[] place;
+        // A name's number, a number's digit.
+        private final long[] value;
+        private int size;
 
-        private Lexer(Tape tape) {
+        private Tokens(Tape tape) {
             this.tape = tape;
+            kind = new int[TAPE_ROOM + 1];
+            place = new int[TAPE_ROOM + 1];
+            value = new long[TAPE_ROOM + 1];
+            size = 0;
         }
 
-        private void start() {
-            next = 0;
-            advance();
-        }
-
-        private void advance() {
-            place = tape.behindBlanks(next);
-            next = place;
-            if (place >= TEXT_LIMIT && tape.size > TEXT_LIMIT) {
-                place = TEXT_LIMIT;
-                kind = BAD;
-            } else if (place >= tape.size) {
-                kind = END;
-            } else if (tape.isLetterAt(place) || tape.isDigitAt(place)) {
-                takeRun();
-            } else {
-                takeMark();
+        private void scan() {
+            size = 0;
+            int next = 0;
+            for (int seen = 0; seen <= TAPE_ROOM; seen++) {
+                int at = tape.behindBlanks(next);
+                if (at >= TEXT_LIMIT && tape.size > TEXT_LIMIT) {
+                    addToken(BAD, TEXT_LIMIT, 0);
+                    return;
+                }
+                if (at >= tape.size) {
+                    addToken(END, tape.size, 0);
+                    return;
+                }
+                next = Math.max(at + 1, tape.behindLettersAndDigits(at));
+                takeToken(at, next);
+                if (kind[seen] == BAD) {
+                    return;
+                }
             }
         }
 
-        private void takeMark() {
-            int mark = tape.bytes[place];
-            kind = mark == '=' ? EQUALS : mark == ';' ? SEMICOLON : BAD;
-            next = place + 1;
-        }
-
-        private void takeRun() {
-            next = tape.behindLettersAndDigits(place);
-            letters = tape.nameBetween(place, next);
+        private void takeToken(int at, int next) {
+            long letters = tape.nameBetween(at, next);
+            int first = tape.bytes[at];
             if (letters != Tape.NO_NAME) {
-                kind = kindOfName();
-            } else if (next == place + 1) {
-                digit = tape.bytes[place] - '0';
-                kind = NUMBER;
+                addToken(kindOfName(letters), at, letters);
+            } else if (next > at + 1) {
+                addToken(BAD, at, 0);
+            } else if (tape.isDigitAt(at)) {
+                addToken(NUMBER, at, first - '0');
             } else {
-                kind = BAD;
+                addToken(first == '=' ? EQUALS : first == ';' ? SEMICOLON : BAD, at, 0);
             }
         }
 
-        private int kindOfName() {
+        private void addToken(int ofKind, int at, long ofValue) {
+            if (size <= TAPE_ROOM) {
+                kind[size] = ofKind;
+                place[size] = at;
+                value[size] = ofValue;
+                size++;
+            }
+        }
+
+        private static int kindOfName(long letters) {
             if (letters == WORD_NAME) {
                 return WORD;
             }
@@ -493,6 +502,15 @@ public final class TreeSchool {
                 other[size] = second;
                 size++;
             }
+        }
+
+        private boolean areAbout(int onFeature) {
+            for (int law = 0; law < size; law++) {
+                if (feature[law] == onFeature) {
+                    return true;
+                }
+            }
+            return false;
         }
 
         // Digits are 0 for none, else the value + 1. The whole's digit, or NONE if the rule makes nothing.
@@ -615,11 +633,18 @@ public final class TreeSchool {
             int secondDigits = isSingle(rule) ? 1 : DIGITS;
             for (int feature = 0; feature < FEATURES; feature++) {
                 int row = rule * RULE_ROOM + feature * PAIRS;
-                for (int a = 0; a < DIGITS; a++) {
-                    for (int b = 0; b < secondDigits; b++) {
-                        int digit = laws.wholeDigit(feature, a, b);
-                        made[row + a * DIGITS + b] = digit < 0 ? NONE : digit << shiftOf(feature);
-                    }
+                Arrays.fill(made, row, row + PAIRS, 0);
+                if (laws.areAbout(feature)) {
+                    tabulateFeature(row, feature, secondDigits, laws);
+                }
+            }
+        }
+
+        private void tabulateFeature(int row, int feature, int secondDigits, Laws laws) {
+            for (int a = 0; a < DIGITS; a++) {
+                for (int b = 0; b < secondDigits; b++) {
+                    int digit = laws.wholeDigit(feature, a, b);
+                    made[row + a * DIGITS + b] = digit < 0 ? NONE : digit << shiftOf(feature);
                 }
             }
         }
@@ -690,15 +715,17 @@ public final class TreeSchool {
         private static final int TOO_MANY = 3;
         private static final int LOOP = 4;
 
-        private final Lexer lexer;
+        private final Tokens tokens;
         private final Laws laws;
+        private int at;
         private Grammar target;
         private int faultKind;
         private int faultPlace;
 
         private GrammarReader(Tape tape) {
-            lexer = new Lexer(tape);
+            tokens = new Tokens(tape);
             laws = new Laws();
+            at = 0;
             faultKind = 0;
             faultPlace = 0;
         }
@@ -708,30 +735,19 @@ public final class TreeSchool {
             target.clear();
             faultKind = 0;
             faultPlace = 0;
-            lexer.start();
-            return takeItems() && isLoopless();
-        }
-
-        private boolean takeItems() {
+            tokens.scan();
+            at = 0;
             for (int items = 0; items <= ENTRY_LIMIT + RULE_LIMIT; items++) {
-                if (items > 0 && lexer.kind == Lexer.END) {
-                    return true;
+                int kind = tokens.kind[at];
+                if (items > 0 && kind == Tokens.END) {
+                    return isLoopless();
                 }
-                if (!takeItem()) {
+                boolean taken = kind == Tokens.WORD ? takeEntry() : kind == Tokens.RULE ? takeRule() : fail(NO_TOKEN);
+                if (!taken) {
                     return false;
                 }
             }
             return fail(TOO_MANY);
-        }
-
-        private boolean takeItem() {
-            if (lexer.kind == Lexer.WORD) {
-                return takeEntry();
-            }
-            if (lexer.kind == Lexer.RULE) {
-                return takeRule();
-            }
-            return fail(NO_TOKEN);
         }
 
         private boolean isLoopless() {
@@ -749,18 +765,17 @@ public final class TreeSchool {
             if (target.entries >= ENTRY_LIMIT) {
                 return fail(TOO_MANY);
             }
-            lexer.advance();
-            if (lexer.kind != Lexer.NAME) {
-                return fail(NO_TOKEN);
+            advance();
+            long letters = tokens.value[at];
+            if (!takeKind(Tokens.NAME)) {
+                return false;
             }
-            long letters = lexer.letters;
-            lexer.advance();
             int category = takeCategoryName();
             if (category < 0) {
                 return false;
             }
             int bits = takeFeatures();
-            if (bits < 0 || !takeKind(Lexer.SEMICOLON)) {
+            if (bits < 0 || !takeKind(Tokens.SEMICOLON)) {
                 return false;
             }
             target.addEntry(letters, (category << FEATURE_BITS) | bits);
@@ -769,7 +784,7 @@ public final class TreeSchool {
 
         private int takeFeatures() {
             int bits = 0;
-            for (int pairs = 0; pairs < TAPE_ROOM && lexer.kind == Lexer.NUMBER; pairs++) {
+            for (int pairs = 0; pairs < TAPE_ROOM && tokens.kind[at] == Tokens.NUMBER; pairs++) {
                 int feature = takeDigit(TOP_DIGIT);
                 if (feature < 0) {
                     return NONE;
@@ -787,10 +802,10 @@ public final class TreeSchool {
             if (target.rules >= RULE_LIMIT) {
                 return fail(TOO_MANY);
             }
-            int at = lexer.place;
-            lexer.advance();
+            int place = tokens.place[at];
+            advance();
             int category = takeCategoryName();
-            if (category < 0 || !takeKind(Lexer.EQUALS)) {
+            if (category < 0 || !takeKind(Tokens.EQUALS)) {
                 return false;
             }
             int left = takeCategoryName();
@@ -798,30 +813,30 @@ public final class TreeSchool {
                 return false;
             }
             int right = NONE;
-            if (lexer.kind == Lexer.NAME) {
+            if (tokens.kind[at] == Tokens.NAME) {
                 right = takeCategoryName();
                 if (right < 0) {
                     return false;
                 }
             }
-            if (!takeLaws(right < 0 ? 1 : 2) || !takeKind(Lexer.SEMICOLON)) {
+            if (!takeLaws(right < 0 ? 1 : 2) || !takeKind(Tokens.SEMICOLON)) {
                 return false;
             }
-            target.addRule(category, left, right, at, laws);
+            target.addRule(category, left, right, place, laws);
             return true;
         }
 
         private boolean takeLaws(int parts) {
             laws.size = 0;
-            for (int count = 0; count <= LAW_LIMIT; count++) {
-                boolean agree = lexer.kind == Lexer.AGREE;
-                if (!agree && lexer.kind != Lexer.IS) {
+            for (int taken = 0; taken <= LAW_LIMIT; taken++) {
+                boolean agree = tokens.kind[at] == Tokens.AGREE;
+                if (!agree && tokens.kind[at] != Tokens.IS) {
                     return true;
                 }
-                if (count == LAW_LIMIT) {
+                if (taken == LAW_LIMIT) {
                     return fail(TOO_MANY);
                 }
-                lexer.advance();
+                advance();
                 if (!takeLaw(agree, parts)) {
                     return false;
                 }
@@ -838,7 +853,7 @@ public final class TreeSchool {
             if (slot < 0) {
                 return false;
             }
-            if (agree && lexer.kind == Lexer.NUMBER && lexer.digit == slot) {
+            if (agree && tokens.kind[at] == Tokens.NUMBER && tokens.value[at] == slot) {
                 return fail(WRONG_NUMBER);
             }
             int other = takeDigit(agree ? parts : TOP_DIGIT);
@@ -850,47 +865,54 @@ public final class TreeSchool {
         }
 
         private int takeCategoryName() {
-            if (lexer.kind != Lexer.NAME) {
+            if (tokens.kind[at] != Tokens.NAME) {
                 fail(NO_TOKEN);
                 return NONE;
             }
-            int category = target.categoryOf(lexer.letters);
+            int category = target.categoryOf(tokens.value[at]);
             if (category < 0) {
-                category = target.addCategory(lexer.letters);
+                category = target.addCategory(tokens.value[at]);
             }
             if (category < 0) {
                 fail(TOO_MANY);
                 return NONE;
             }
-            lexer.advance();
+            advance();
             return category;
         }
 
         private int takeDigit(int highest) {
-            if (lexer.kind != Lexer.NUMBER) {
+            if (tokens.kind[at] != Tokens.NUMBER) {
                 fail(NO_TOKEN);
                 return NONE;
             }
-            int digit = lexer.digit;
+            int digit = (int) tokens.value[at];
             if (digit > highest) {
                 fail(WRONG_NUMBER);
                 return NONE;
             }
-            lexer.advance();
+            advance();
             return digit;
         }
 
         private boolean takeKind(int kind) {
-            if (lexer.kind != kind) {
+            if (tokens.kind[at] != kind) {
                 return fail(NO_TOKEN);
             }
-            lexer.advance();
+            advance();
             return true;
+        }
+
+        // The last token is the end or none at all, and nothing goes past it.
+        private void advance() {
+            if (at + 1 < tokens.size) {
+                at++;
+            }
         }
 
         private boolean fail(int kind) {
             faultKind = kind;
-            faultPlace = lexer.place;
+            faultPlace = tokens.place[at];
             return false;
         }
     }
@@ -1252,20 +1274,10 @@ public final class TreeSchool {
             weight = new long[DEPTH_LIMIT * SIGN_LIMIT];
         }
 
-        private void findByNumber(Grammar told, long k) {
-            byCost = false;
-            number = k;
-            find(told);
-        }
-
-        private void findNearest(Grammar told) {
-            byCost = true;
-            number = 0;
-            find(told);
-        }
-
-        private void find(Grammar told) {
+        private void find(Grammar told, boolean nearest, long k) {
             grammar = told;
+            byCost = nearest;
+            number = k;
             tree.size = 0;
             open = 0;
             if (pushNode(grammar.root(), 0, sentence.size)) {
