@@ -397,6 +397,9 @@ public final class TreeSchool {
         private static final int END = 8;
         private static final int BAD = 9;
 
+        // Tokens begin ahead of byte 1500, and the end comes behind them.
+        private static final int TOKEN_LIMIT = TEXT_LIMIT + 1;
+
         private static final long WORD_NAME = (23L << 15) | (15L << 10) | (18L << 5) | 4L;
         private static final long RULE_NAME = (18L << 15) | (21L << 10) | (12L << 5) | 5L;
         private static final long AGREE_NAME = (1L << 20) | (7L << 15) | (18L << 10) | (5L << 5) | 5L;
@@ -411,16 +414,16 @@ public final class TreeSchool {
 
         private Tokens(Tape tape) {
             this.tape = tape;
-            kind = new int[TAPE_ROOM + 1];
-            place = new int[TAPE_ROOM + 1];
-            value = new long[TAPE_ROOM + 1];
+            kind = new int[TOKEN_LIMIT];
+            place = new int[TOKEN_LIMIT];
+            value = new long[TOKEN_LIMIT];
             size = 0;
         }
 
         private void scan() {
             size = 0;
             int next = 0;
-            for (int seen = 0; seen <= TAPE_ROOM; seen++) {
+            for (int seen = 0; seen < TOKEN_LIMIT; seen++) {
                 int at = tape.behindBlanks(next);
                 if (at >= TEXT_LIMIT && tape.size > TEXT_LIMIT) {
                     addToken(BAD, TEXT_LIMIT, 0);
@@ -453,7 +456,7 @@ public final class TreeSchool {
         }
 
         private void addToken(int ofKind, int at, long ofValue) {
-            if (size <= TAPE_ROOM) {
+            if (size < TOKEN_LIMIT) {
                 kind[size] = ofKind;
                 place[size] = at;
                 value[size] = ofValue;

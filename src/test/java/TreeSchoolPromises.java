@@ -278,6 +278,15 @@ public final class TreeSchoolPromises {
         dueFault("rule a=b is 0 0 1 c;", 1, 18);
         dueFault("rule a=b word c d;", 1, 9);
         dueFault("rule a=b is is 0 0 1;", 1, 12);
+        dueFault("=".repeat(1500), 1, 0);
+        // Bytes behind the tape's end are none of it.
+        TreeSchool x = new TreeSchool();
+        tell(x, "word a bcdefghijklmnopqrst;");
+        due("end(9)", x.end(9), true);
+        due("grammar() of a cut tape", x.grammar(), -10);
+        tell(x, "word a bcd    ef;");
+        due("end(10)", x.end(10), true);
+        due("grammar() of a cut tape", x.grammar(), -11);
         // A loop is told only if there is nothing else.
         dueFault("rule a=a;x", 1, 9);
     }
@@ -371,6 +380,11 @@ public final class TreeSchoolPromises {
         dueFault(" ".repeat(1491) + "word a b 4 0;", 1, 1500);
         dueFault(" ".repeat(1488) + "rule a=a; ;;", 1, 1498);
         dueFault(" ".repeat(1490) + "rule a=a;     ", 1, 1500);
+        dueFault("a".repeat(1540), 1, 0);
+        dueFault(" ".repeat(1499) + "a".repeat(41), 1, 1499);
+        dueFault("word a b " + "0 0 ".repeat(382) + "0 0", 1, 1500);
+        dueFault("word a b " + "0 0 ".repeat(372) + "0 0", 1, 1500);
+        dueGrammar(new TreeSchool(), "word a b" + " 0 0".repeat(372) + "  ;", 0, 1);
         dueFault("word a b;".repeat(40) + " ".repeat(1136) + "word a b;", 3, 1496);
         dueFault("word a b;".repeat(40) + " ".repeat(1139) + "word a b;", 3, 1499);
         dueFault("word a b;".repeat(40) + " ".repeat(1140) + "word a b;", 1, 1500);
@@ -402,7 +416,7 @@ public final class TreeSchoolPromises {
         x.tree(0);
         dueBracket(x, "s", 0, 3, true);
         String[] none = {"", " ", "\n", "the dog 1", "the dog2 barks", "The dog", "the;dog", "abcdefghijk", "the\tdog",
-            "the dog \u00e1", "a ".repeat(15), "a" + " ".repeat(1500)};
+            "the dog \u00e1", "a ".repeat(15), "a".repeat(1540), "a" + " ".repeat(1500)};
         for (String text : none) {
             dueRead(x, text, -1);
             dueCounts(x, 5, 4, 6, 3, 1, 6, 0);
@@ -806,7 +820,7 @@ public final class TreeSchoolPromises {
         dueCategory(x, "d", 0);
         dueCategory(x, "\n vp \n\n", 5);
         dueCategory(x, " ".repeat(1538) + "np", 4);
-        String[] none = {"", " ", "dog", "npx", "p", "n p", "np np", "np=", "np0", "NP", "abcdefghijklm", "np\0", "word"};
+        String[] none = {"", " ", "a".repeat(1540), "dog", "npx", "p", "n p", "np np", "np=", "np0", "NP", "abcdefghijklm", "np\0", "word"};
         for (String text : none) {
             dueCategory(x, text, -1);
         }
