@@ -1,149 +1,7 @@
-import java.util.NoSuchElementException;
-
 /** The promises one by one: ordinary calls, the edges that the document names, and wrong input. */
-public final class TreeSchoolPromises {
-    private static final long MANY = 1000000000000000L;
-    private static final String TOY = "word the d;word dog n 0 0;word dogs n 0 1;word barks v 0 0;word bark v 0 1;"
-            + "rule s=np vp agree 0 1 2;rule np=d n agree 0 0 2;rule np=n agree 0 0 1 is 0 1 1;rule vp=v agree 0 0 1;";
-
-    private static int wrong = 0;
-    private static String promise = "";
-
-    private static void due(String what, long got, long want) {
-        if (got != want) {
-            wrong++;
-            System.out.println(promise + ": " + what + " answered " + got + ", due is " + want);
-        }
-    }
-
-    private static void due(String what, boolean got, boolean want) {
-        due(what, got ? 1 : 0, want ? 1 : 0);
-    }
-
-    private static void tell(TreeSchool x, String text) {
-        int before = x.count(6);
-        for (int p = 0; p < text.length(); p += 20) {
-            int[] n = new int[5];
-            for (int k = 0; k < 20; k++) {
-                n[k / 4] = n[k / 4] << 8 | (p + k < text.length() ? text.charAt(p + k) : 0);
-            }
-            x.feed(n[0], n[1], n[2], n[3], n[4]);
-        }
-        due("end of [" + text + "]", x.end(before + text.length()), true);
-    }
-
-    private static TreeSchool with(String grammar) {
-        TreeSchool x = new TreeSchool();
-        dueGrammar(x, grammar, 0, grammar.length() - grammar.replace(";", "").length());
-        return x;
-    }
-
-    private static TreeSchool with(String grammar, String sentence) {
-        TreeSchool x = with(grammar);
-        dueRead(x, sentence, 1);
-        return x;
-    }
-
-    private static void dueGrammar(TreeSchool x, String text, int fault, int answer) {
-        tell(x, text);
-        due("grammar() of [" + text + "]", x.grammar(), answer);
-        due("fault() of [" + text + "]", x.fault(), fault);
-        due("tape behind grammar()", x.count(6), 0);
-    }
-
-    private static void dueFault(String text, int fault, int place) {
-        dueGrammar(new TreeSchool(), text, fault, -1 - place);
-    }
-
-    private static void dueRead(TreeSchool x, String text, int answer) {
-        tell(x, text);
-        due("read() of [" + text + "]", x.read(), answer);
-        due("tape behind read()", x.count(6), 0);
-    }
-
-    private static void dueBracket(TreeSchool x, String name, int i, int j, boolean answer) {
-        tell(x, name);
-        due("bracket(" + i + ", " + j + ") of [" + name + "]", x.bracket(i, j), answer);
-        due("tape behind bracket()", x.count(6), 0);
-    }
-
-    private static void dueCategory(TreeSchool x, String name, int answer) {
-        tell(x, name);
-        due("category() of [" + name + "]", x.category(), answer);
-        due("tape behind category()", x.count(6), 0);
-    }
-
-    private static void dueCounts(TreeSchool x, int... counts) {
-        for (int what = 0; what < counts.length; what++) {
-            due("count(" + what + ")", x.count(what), counts[what]);
-        }
-    }
-
-    private static void dueSign(TreeSchool x, int i, int j, int k, int... parts) {
-        for (int what = 0; what < parts.length; what++) {
-            due("sign(" + i + ", " + j + ", " + k + ", " + what + ")", x.sign(i, j, k, what), parts[what]);
-        }
-    }
-
-    private static void dueNode(TreeSchool x, int m, int... parts) {
-        for (int what = 0; what < parts.length; what++) {
-            due("node(" + m + ", " + what + ")", x.node(m, what), parts[what]);
-        }
-    }
-
-    private static void dueNoSign(TreeSchool x, int i, int j, int k, int what) {
-        boolean thrown = false;
-        try {
-            x.sign(i, j, k, what);
-        } catch (NoSuchElementException e) {
-            thrown = true;
-        }
-        due("sign(" + i + ", " + j + ", " + k + ", " + what + ") throws", thrown, true);
-    }
-
-    private static void dueNoTimes(TreeSchool x, int i, int j, int k) {
-        boolean thrown = false;
-        try {
-            x.times(i, j, k);
-        } catch (NoSuchElementException e) {
-            thrown = true;
-        }
-        due("times(" + i + ", " + j + ", " + k + ") throws", thrown, true);
-    }
-
-    private static void dueNoNode(TreeSchool x, int m, int what) {
-        boolean thrown = false;
-        try {
-            x.node(m, what);
-        } catch (NoSuchElementException e) {
-            thrown = true;
-        }
-        due("node(" + m + ", " + what + ") throws", thrown, true);
-    }
-
-    private static void dueNoOctet(TreeSchool x, int k) {
-        boolean thrown = false;
-        try {
-            x.octet(k);
-        } catch (NoSuchElementException e) {
-            thrown = true;
-        }
-        due("octet(" + k + ") throws", thrown, true);
-    }
-
-    private static void dueOut(TreeSchool x, String text) {
-        due("bytes of OUT", x.count(7), text.length());
-        for (int k = 0; k < text.length(); k++) {
-            due("octet(" + k + ")", x.octet(k), text.charAt(k));
-        }
-        dueNoOctet(x, text.length());
-        dueNoOctet(x, -1);
-        dueNoOctet(x, Integer.MAX_VALUE);
-        dueNoOctet(x, Integer.MIN_VALUE);
-    }
-
+public final class TreeSchoolPromises extends Bench {
     private static void newObject() {
-        promise = "1 a new object";
+        tested = "1 a new object";
         TreeSchool x = new TreeSchool();
         due("NONE", TreeSchool.NONE, -1);
         dueCounts(x, 0, 0, 0, 0, 0, 0, 0, 0);
@@ -166,7 +24,7 @@ public final class TreeSchoolPromises {
     }
 
     private static void feed() {
-        promise = "2 feed";
+        tested = "2 feed";
         TreeSchool x = new TreeSchool();
         due("feed", x.feed(0x776f7264, 0x20616220, 0x63643b0a, 0x72756c65, 0x2063643d), 20);
         due("feed", x.feed(0x6364200a, 0x63643b00, 0, 0, 0), 40);
@@ -187,7 +45,7 @@ public final class TreeSchoolPromises {
     }
 
     private static void end() {
-        promise = "3 end";
+        tested = "3 end";
         TreeSchool x = new TreeSchool();
         due("end(0)", x.end(0), true);
         due("end(1)", x.end(1), false);
@@ -205,7 +63,7 @@ public final class TreeSchoolPromises {
     }
 
     private static void grammar() {
-        promise = "4 grammar";
+        tested = "4 grammar";
         TreeSchool x = with(TOY, "the dog barks");
         x.tree(0);
         x.name(4);
@@ -242,7 +100,7 @@ public final class TreeSchoolPromises {
     }
 
     private static void faultOfTokens() {
-        promise = "5 fault, 1";
+        tested = "5 fault, 1";
         dueFault("", 1, 0);
         dueFault("  \n ", 1, 4);
         dueFault("word", 1, 4);
@@ -292,7 +150,7 @@ public final class TreeSchoolPromises {
     }
 
     private static void faultOfNumbers() {
-        promise = "5 fault, 2";
+        tested = "5 fault, 2";
         dueFault("word a b 4 0;", 2, 9);
         dueFault("word a b 3 3 0 4;", 2, 15);
         dueFault("word a b 9 x;", 2, 9);
@@ -312,7 +170,7 @@ public final class TreeSchoolPromises {
     }
 
     private static void faultOfNumbersOfThings() {
-        promise = "5 fault, 3";
+        tested = "5 fault, 3";
         String word = "word a b;";
         String rule = "rule a=b c;";
         String forty = word.repeat(40);
@@ -344,7 +202,7 @@ public final class TreeSchoolPromises {
     }
 
     private static void faultOfLoops() {
-        promise = "5 fault, 4";
+        tested = "5 fault, 4";
         dueFault("rule a=a;", 4, 0);
         dueFault("word a a; rule a=a;", 4, 10);
         dueFault("rule a=b;rule c=c;rule b=a;", 4, 0);
@@ -360,7 +218,7 @@ public final class TreeSchoolPromises {
     }
 
     private static void faultOfLength() {
-        promise = "5 fault, 1500 bytes";
+        tested = "5 fault, 1500 bytes";
         String item = "word a b;";
         dueGrammar(new TreeSchool(), item + " ".repeat(1491), 0, 1);
         dueFault(item + " ".repeat(1492), 1, 1500);
@@ -391,7 +249,7 @@ public final class TreeSchoolPromises {
     }
 
     private static void fault() {
-        promise = "5 fault";
+        tested = "5 fault";
         TreeSchool x = new TreeSchool();
         dueGrammar(x, "rule a=b is 7 0 0;", 2, -13);
         dueRead(x, "a", -1);
@@ -403,7 +261,7 @@ public final class TreeSchoolPromises {
     }
 
     private static void read() {
-        promise = "6 read";
+        tested = "6 read";
         TreeSchool x = with(TOY, " the\ndog  barks\n");
         dueRead(x, "the dogs bark", 1);
         dueRead(x, "dogs bark", 1);
@@ -450,7 +308,7 @@ public final class TreeSchoolPromises {
     }
 
     private static void large() {
-        promise = "6 read, LARGE";
+        tested = "6 read, LARGE";
         TreeSchool x = with(cross(6, 10), "a b");
         due("signs(0, 2)", x.signs(0, 2), 60);
         due("trees()", x.trees(), 60);
@@ -462,7 +320,7 @@ public final class TreeSchoolPromises {
     }
 
     private static void larger() {
-        promise = "6 read, LARGE";
+        tested = "6 read, LARGE";
         TreeSchool x = new TreeSchool();
         // Signs of another category come behind the sixty.
         dueGrammar(x, cross(6, 10) + "rule z=s;", 0, 18);
@@ -493,7 +351,7 @@ public final class TreeSchoolPromises {
     }
 
     private static void laws() {
-        promise = "6 read, laws";
+        tested = "6 read, laws";
         // agree hands a value on, law by law: feature 0 goes 2, 1, 0.
         TreeSchool x = with("word a x;word b y 0 2;rule s=x y agree 0 1 2 agree 0 0 1;", "a b");
         dueSign(x, 0, 2, 0, 2, 2, -1, -1, -1);
@@ -525,7 +383,7 @@ public final class TreeSchoolPromises {
     }
 
     private static void trees() {
-        promise = "7 trees";
+        tested = "7 trees";
         TreeSchool x = with("word a x;rule x=x x;");
         long[] catalan = {1, 1, 2, 5, 14, 42, 132, 429, 1430, 4862, 16796, 58786, 208012, 742900};
         for (int n = 1; n <= 14; n++) {
@@ -555,7 +413,7 @@ public final class TreeSchoolPromises {
     }
 
     private static void signs() {
-        promise = "8 signs";
+        tested = "8 signs";
         TreeSchool x = with(TOY, "the dog barks");
         int[][] due = {{0, 1, 1}, {1, 2, 1}, {2, 3, 2}, {0, 2, 1}, {1, 3, 0}, {0, 3, 1}, {0, 4, -1}, {1, 1, -1}, {2, 1, -1},
             {-1, 1, -1}, {0, 0, -1}, {3, 4, -1}, {Integer.MIN_VALUE, 1, -1}, {0, Integer.MAX_VALUE, -1},
@@ -568,7 +426,7 @@ public final class TreeSchoolPromises {
     }
 
     private static void sign() {
-        promise = "9 sign";
+        tested = "9 sign";
         String told = "word a y 0 1;word a y;word a x 3 0;word a y 1 0;word a y 0 0;word a x 2 3;word a y 0 0 1 2;"
                 + "word a y 0 1;rule s=y is 0 1 0;";
         TreeSchool x = with(told, "a");
@@ -593,7 +451,7 @@ public final class TreeSchoolPromises {
     }
 
     private static void times() {
-        promise = "10 times";
+        tested = "10 times";
         TreeSchool x = with("word a x;word a x 0 1;rule x=x x agree 0 0 1;", "a a a");
         // By the first word's value; the others are free.
         due("times(0, 3, 0)", x.times(0, 3, 0), 8);
@@ -608,7 +466,7 @@ public final class TreeSchoolPromises {
     }
 
     private static void tree() {
-        promise = "11 tree";
+        tested = "11 tree";
         TreeSchool x = with("word a x;rule x=x x;", "a a a a");
         int[][] firstSplits = {{4, 1, 4}, {4, 1, 4}, {4, 2, 1}, {4, 3, 1}, {4, 3, 2}};
         for (int k = 0; k < 5; k++) {
@@ -654,7 +512,7 @@ public final class TreeSchoolPromises {
     }
 
     private static void node() {
-        promise = "12 node";
+        tested = "12 node";
         TreeSchool x = with(TOY, "the dogs bark");
         dueNoNode(x, 0, 0);
         due("tree(0)", x.tree(0), 6);
@@ -676,7 +534,7 @@ public final class TreeSchoolPromises {
     }
 
     private static void bracket() {
-        promise = "13 bracket";
+        tested = "13 bracket";
         TreeSchool x = with(TOY);
         dueBracket(x, "np", 0, 1, false);
         dueRead(x, "the dog barks", 1);
@@ -711,7 +569,7 @@ public final class TreeSchoolPromises {
     }
 
     private static void wipe() {
-        promise = "14 wipe";
+        tested = "14 wipe";
         TreeSchool x = with(TOY, "the dog barks");
         x.tree(0);
         dueBracket(x, "s", 0, 3, true);
@@ -728,7 +586,7 @@ public final class TreeSchoolPromises {
     }
 
     private static void slips() {
-        promise = "15 slips";
+        tested = "15 slips";
         TreeSchool x = with("word a x;rule x=x x;rule x=y;rule z=x x;word a y;", "a a a");
         due("slips()", x.slips(), 5);
         dueBracket(x, "y", 0, 1, true);
@@ -749,7 +607,7 @@ public final class TreeSchoolPromises {
     }
 
     private static void mark() {
-        promise = "16 mark";
+        tested = "16 mark";
         TreeSchool x = with("word a x;rule x=x x;", "a a a a");
         due("mark()", x.mark(), 7);
         due("the first of all", x.node(1, 2), 1);
@@ -780,7 +638,7 @@ public final class TreeSchoolPromises {
     }
 
     private static void held() {
-        promise = "17 held";
+        tested = "17 held";
         TreeSchool x = with("word a x;rule x=x x;", "a a a a");
         due("held()", x.held(), -1);
         dueBracket(x, "x", 0, 3, true);
@@ -797,7 +655,7 @@ public final class TreeSchoolPromises {
     }
 
     private static void name() {
-        promise = "18 name";
+        tested = "18 name";
         TreeSchool x = with("word a abcdefghij;rule z=yx abcdefghij;");
         due("name(0)", x.name(0), 10);
         dueOut(x, "abcdefghij");
@@ -815,7 +673,7 @@ public final class TreeSchoolPromises {
     }
 
     private static void category() {
-        promise = "19 category";
+        tested = "19 category";
         TreeSchool x = with(TOY);
         dueCategory(x, "d", 0);
         dueCategory(x, "\n vp \n\n", 5);
@@ -828,7 +686,7 @@ public final class TreeSchoolPromises {
     }
 
     private static void octet() {
-        promise = "20 octet";
+        tested = "20 octet";
         TreeSchool x = with("word a azm;");
         dueOut(x, "");
         x.name(0);
@@ -836,7 +694,7 @@ public final class TreeSchoolPromises {
     }
 
     private static void count() {
-        promise = "21 count";
+        tested = "21 count";
         TreeSchool x = with(TOY, "the dog barks");
         x.tree(0);
         x.name(5);
@@ -879,9 +737,6 @@ public final class TreeSchoolPromises {
         category();
         octet();
         count();
-        System.out.println(wrong == 0 ? "all promises are kept" : wrong + " answers are not as due");
-        if (wrong != 0) {
-            System.exit(1);
-        }
+        finish("all promises are kept");
     }
 }
