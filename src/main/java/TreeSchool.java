@@ -297,7 +297,7 @@ public final class TreeSchool {
     }
 
     private static long sumOf(long a, long b) {
-        return Math.min(MANY, a + b);
+        return a < MANY - b ? a + b : MANY;
     }
 
     private static long productOf(long a, long b) {

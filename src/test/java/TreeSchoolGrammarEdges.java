@@ -409,6 +409,10 @@ public final class TreeSchoolGrammarEdges extends Bench {
         dueRead(with(two + "is 0 1 2;"), "a b", 0);
         dueRead(with(two + "is 0 2 1;"), "a b", 0);
         dueRead(with(two + "agree 0 1 2;"), "a b", 0);
+        // Category 0 may be either part, or both.
+        dueRead(with("word b y 0 2;word a x 0 1;rule s=x y agree 0 0 2 agree 0 0 1;"), "a b", 0);
+        dueRead(with("word b y 0 2;word a x 0 1;rule s=x y agree 0 0 2 is 0 2 2;"), "a b", 1);
+        dueRead(with("word b y 0 2;word a x 0 1;rule y=y y agree 0 2 1 is 0 2 2;"), "b b", 1);
     }
 
     private static void numbering() {
@@ -511,6 +515,14 @@ public final class TreeSchoolGrammarEdges extends Bench {
         x.end(15);
         tell(x, " b;");
         due("grammar()", x.grammar(), 1);
+        tell(x, "word a bcd");
+        x.end(8);
+        due("grammar() of a name that is cut", x.grammar(), -9);
+        tell(x, "word a b 011");
+        x.end(10);
+        due("grammar() of a number that is cut", x.grammar(), -11);
+        dueFault("z".repeat(1540), 1, 0);
+        dueFault(" ".repeat(1499) + "9".repeat(41), 1, 1499);
     }
 
     private static void faultAt1500() {
@@ -639,6 +651,27 @@ public final class TreeSchoolGrammarEdges extends Bench {
         dueFault("rule a=b;".repeat(10) + "word a b;" + "rule a=b c;".repeat(21), 3, 319);
     }
 
+    private static void thirtiethRuleCounts() {
+        tested = "3 .. a 31st RULE (the 30th one is still a RULE, with its LAWS)";
+        TreeSchool x = with("rule s=t is 3 1 3;".repeat(29) + "rule s=t agree 3 0 1 agree 0 0 1;word a t 0 3 3 0;word b t;");
+        dueRead(x, "a", 1);
+        due("tree(0)", x.tree(0), 2);
+        dueNode(x, 0, 0, 0, 1, 29, 0, 3, -1, -1, 0);
+        dueRead(x, "b", 1);
+        due("trees()", x.trees(), 30);
+        x = with("rule s=t u is 3 1 3;".repeat(29) + "rule s=t u agree 3 2 1 agree 3 0 2;word a t 3 2;word b u;");
+        dueRead(x, "a b", 1);
+        due("tree(0)", x.tree(0), 3);
+        dueNode(x, 0, 0, 0, 2, 29, 0, -1, -1, -1, 2);
+    }
+
+    private static void fortiethEntryCounts() {
+        tested = "3 a 41st ENTRY (the 40th one is still an ENTRY)";
+        TreeSchool x = with("word a b;".repeat(39) + "word c d 1 2;rule d=b b;", "c");
+        due("tree(0)", x.tree(0), 1);
+        dueNode(x, 0, 1, 0, 1, -40, 0, -1, 2, -1, -1);
+    }
+
     private static void lawsUpToEight() {
         tested = "3 .. a ninth LAW of a RULE (at its NAME)";
         String agree = " agree 0 0 1";
@@ -742,6 +775,25 @@ public final class TreeSchoolGrammarEdges extends Bench {
         dueFault("rule a=b;rule b=c;rule b=d;rule d=b;", 4, 18);
     }
 
+    private static void loopsOfAnyNumbers() {
+        tested = "the first RULE from whose PART one comes so to its CATEGORY (whatever their numbers are)";
+        for (int order = 0; order < 256; order++) {
+            int[] c = {order & 3, order >> 2 & 3, order >> 4 & 3, order >> 6 & 3};
+            if ((1 << c[0] | 1 << c[1] | 1 << c[2] | 1 << c[3]) != 15) {
+                continue;
+            }
+            // Categories a to d come in this order; the rules lead round, z comes into the ring.
+            StringBuilder words = new StringBuilder();
+            for (int n = 0; n < 4; n++) {
+                words.append("word w ").append((char) ('a' + c[n])).append(';');
+            }
+            dueFault(words + "rule z=a;rule a=b;rule b=c;rule c=d;rule d=a;", 4, 45);
+            dueFault(words + "rule z=a;rule c=d;rule a=b;rule d=a;rule b=c;", 4, 45);
+            dueFault(words + "rule a=b;rule b=c;rule c=d;rule d=c;", 4, 54);
+            dueItems(words + "rule a=b;rule b=c;rule c=d;rule a=d;", 8);
+        }
+    }
+
     // Promises 4 and 5.
 
     private static void grammarCountsItems() {
@@ -761,6 +813,33 @@ public final class TreeSchoolGrammarEdges extends Bench {
         due("mark()", x.mark(), -1);
         dueRead(x, "the dog barks", 1);
         due("slips() without the old drawing", x.slips(), 6);
+    }
+
+    private static void grammarIsNew() {
+        tested = "The tape .. is the GRAMMAR (nothing of those ahead of it is left)";
+        TreeSchool x = new TreeSchool();
+        String strict = "rule s=t is 0 1 3 is 1 0 1 agree 2 0 1;rule t=s s is 3 0 0 is 2 1 3;word a t;";
+        for (int n = 0; n < 4; n++) {
+            dueGrammar(x, strict, 0, 3);
+            dueGrammar(x, "rule s=t;rule t=s s;word a t 0 0 2 2;word b s 2 1;", 0, 4);
+            dueRead(x, "a", 1);
+            dueSign(x, 0, 1, 0, 0, -1, -1, -1, -1);
+            dueRead(x, "b b", 1);
+            dueSign(x, 0, 2, 1, 1, -1, -1, -1, -1);
+            // One grammar more, so that each comes behind the strict one by one and by two.
+            if (n % 2 == 0) {
+                dueGrammar(x, "rule t=s;", 0, 1);
+            }
+        }
+        x = new TreeSchool();
+        dueGrammar(x, "rule a=b;rule b=c;", 0, 2);
+        dueGrammar(x, "rule b=a;rule c=b;", 0, 2);
+        dueGrammar(x, "word w b;rule a=b;rule c=a;", 0, 3);
+        dueGrammar(x, "rule a=b;rule b=a;", 4, -1);
+        dueGrammar(x, "rule a=b;", 0, 1);
+        dueGrammar(x, "rule b=c;rule c=b;", 4, -1);
+        dueGrammar(x, "rule a=b;rule a=c;rule a=d;", 0, 3);
+        dueCounts(x, 0, 3, 4, 0, 0, 0, 0, 0);
     }
 
     private static void grammarRefused() {
@@ -839,13 +918,17 @@ public final class TreeSchoolGrammarEdges extends Bench {
         slotsAlike();
         entriesUpTo40();
         rulesUpTo30();
+        thirtiethRuleCounts();
+        fortiethEntryCounts();
         lawsUpToEight();
         eighthLawCounts();
         categoriesUpTo16();
         loopIsLast();
         loops();
         placeOfALoop();
+        loopsOfAnyNumbers();
         grammarCountsItems();
+        grammarIsNew();
         grammarRefused();
         kindOfFault();
         finish("tapes and grammars keep their boundaries");

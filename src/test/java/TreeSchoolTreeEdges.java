@@ -202,6 +202,36 @@ public final class TreeSchoolTreeEdges extends Bench {
         dueMade("", "", " agree 0 1 2 is 0 1 3 agree 0 0 2", -1, -1, -1, -1);
     }
 
+    private static void lawsOfOnePart() {
+        tested = "then LAW by LAW (of a RULE of one PART)";
+        for (int f = 0; f < 4; f++) {
+            for (int v = 0; v < 4; v++) {
+                for (int w = 0; w < 4; w++) {
+                    TreeSchool x = with("word a x " + f + " " + v + ";rule s=x agree " + f + " 0 1 is " + f + " 1 " + w + ";");
+                    dueRead(x, "a", v == w ? 1 : 0);
+                    due("tree(0)", x.tree(0), v == w ? 2 : -1);
+                    due("signs(0, 1)", x.signs(0, 1), v == w ? 2 : 1);
+                    due("value", v == w ? x.node(0, 5 + f) : v, v);
+                }
+            }
+        }
+        // Signs next to one another each make their own.
+        TreeSchool x = with("word a x 3 3;word a x 3 2;word a x 3 1;word a x 3 0;word a x;rule s=x agree 3 0 1;", "a");
+        due("signs(0, 1)", x.signs(0, 1), 10);
+        for (int k = 0; k < 10; k++) {
+            dueSign(x, 0, 1, k, k / 5, -1, -1, -1, k % 5 - 1);
+        }
+        due("trees()", x.trees(), 5);
+        // By way of several rules, each made ahead of what it is a part of.
+        x = with("rule s=r agree 0 0 1;rule r=q agree 0 0 1;rule q=p agree 0 0 1;word a p 0 1;word a p 0 3;word a r 0 2;", "a");
+        due("trees()", x.trees(), 3);
+        int[] values = {2, 1, 3};
+        for (int k = 0; k < 3; k++) {
+            due("tree(" + k + ")", x.tree(k), k == 0 ? 2 : 4);
+            due("value", x.node(0, 5), values[k]);
+        }
+    }
+
     private static void isALaw() {
         tested = "is: the SLOT must have no VALUE or that one, and has it then";
         for (int v = 0; v < 4; v++) {
@@ -356,6 +386,10 @@ public final class TreeSchoolTreeEdges extends Bench {
         dueRead(with(sixtyAndOne.replace('#', 'z')), "a b", -2);
         dueRead(with("word q z;" + sixtyAndOne.replace('#', 'z')), "a b", -2);
         dueRead(with("word q s;" + cross(6, 10) + "rule s=x y is 0 0 0 is 1 0 0 is 2 0 0 is 3 0 0;"), "a b", 1);
+        // One of one part, which the first of the sixty alone makes, or the last one, or none.
+        dueRead(with(cross(6, 10) + "rule z=s is 0 1 0 is 1 1 0 is 2 1 0 is 3 1 0;"), "a b", -2);
+        dueRead(with(cross(6, 10) + "rule z=s is 0 1 1 is 1 1 1 is 2 1 2 is 3 1 1;"), "a b", -2);
+        dueRead(with(cross(6, 10) + "rule z=s is 0 1 1 is 1 1 1 is 2 1 2 is 3 1 2;"), "a b", 1);
     }
 
     private static void largeAnywhere() {
@@ -673,6 +707,25 @@ public final class TreeSchoolTreeEdges extends Bench {
         dueNoNode(x, 7, 0);
     }
 
+    private static void valuesOfNodes() {
+        tested = "NODE m .. 5 to 8 VALUES of FEATURES 0 to 3";
+        // Feature 0 comes from a node's first word, feature 3 from its last one.
+        TreeSchool x = with("rule x=x x agree 0 0 1 agree 3 0 2;word a x 0 0 3 0;word b x 0 1 3 1;word c x 0 2 3 2;word d x 0 3 3 3;",
+                "a b c d");
+        due("trees()", x.trees(), 5);
+        for (int k = 0; k < 5; k++) {
+            due("tree(" + k + ")", x.tree(k), 7);
+            for (int m = 0; m < 7; m++) {
+                due("feature 0 of node " + m, x.node(m, 5), x.node(m, 1));
+                due("feature 1 of node " + m, x.node(m, 6), -1);
+                due("feature 2 of node " + m, x.node(m, 7), -1);
+                due("feature 3 of node " + m, x.node(m, 8), x.node(m, 2) - 1);
+            }
+        }
+        due("mark()", x.mark(), 7);
+        dueNode(x, 0, 0, 0, 4, 0, 0, 0, -1, -1, 3);
+    }
+
     private static void deepestTree() {
         tested = "NODE m .. 4 how many NODES it lies in (the largest TREE)";
         StringBuilder s = new StringBuilder();
@@ -724,6 +777,7 @@ public final class TreeSchoolTreeEdges extends Bench {
         splits();
         agreeWithBoth();
         agreeWithOne();
+        lawsOfOnePart();
         isALaw();
         slotZeroHasNone();
         topHasSlotZero();
@@ -750,6 +804,7 @@ public final class TreeSchoolTreeEdges extends Bench {
         treeOfMany();
         treeNone();
         nodesInOrder();
+        valuesOfNodes();
         deepestTree();
         nodeNone();
         finish("sentences and trees keep their boundaries");
