@@ -261,6 +261,24 @@ public final class TreeSchoolDrawingEdges extends Bench {
         }
     }
 
+    private static void slipsOfEachSign() {
+        tested = "The least SLIPS of all TREES (of TREES with unlike SIGNS)";
+        // Each value of y has its own least tree: 0 and 3 by the entry of z, 1 by that of y, 2 by that of w.
+        String y = "word a x;word b y 0 1;word b z;word b w;rule z=w is 1 0 1;rule y=w is 0 0 2;rule y=z is 0 0 0;"
+                + "rule y=z is 1 1 0 is 0 0 3;rule u=w;rule y=u is 0 0 3;";
+        int[] least = {4, 3, 4, 4};
+        int[] withZ = {3, 4, 5, 3};
+        int[] nodes = {4, 3, 4, 4};
+        for (int value = 0; value < 4; value++) {
+            TreeSchool x = with("rule s=x y is 0 2 " + value + ";" + y, "a b");
+            due("slips() of the value " + value, x.slips(), least[value]);
+            dueBracket(x, "z", 1, 2, true);
+            due("slips() of the value " + value, x.slips(), withZ[value]);
+            due("mark() of the value " + value, x.mark(), nodes[value]);
+            due("held() of the value " + value, x.held(), withZ[value]);
+        }
+    }
+
     private static void slipsOfMany() {
         tested = "The least SLIPS of all TREES (of 10^15 or more)";
         TreeSchool x = with("word a x;".repeat(40) + "rule x=x x;".repeat(30), "a ".repeat(14));
@@ -523,6 +541,24 @@ public final class TreeSchoolDrawingEdges extends Bench {
         }
     }
 
+    private static void readMe() {
+        tested = "README.md: how to use it";
+        TreeSchool school = new TreeSchool();
+        due("feed", school.feed(0x776f7264, 0x20612078, 0x3b72756c, 0x6520783d, 0x7820783b), 20);
+        due("grammar()", school.grammar(), 2);
+        due("feed", school.feed(0x61206120, 0x61000000, 0, 0, 0), 20);
+        due("end(5)", school.end(5), true);
+        due("read()", school.read(), 1);
+        due("trees()", school.trees(), 2);
+        due("tree(1)", school.tree(1), 5);
+        due("node(1, 2)", school.node(1, 2), 2);
+        due("feed", school.feed(0x78000000, 0, 0, 0, 0), 20);
+        due("end(1)", school.end(1), true);
+        due("bracket(1, 3)", school.bracket(1, 3), true);
+        due("slips()", school.slips(), 4);
+        due("mark()", school.mark(), 5);
+    }
+
     private static void dearCalls() {
         tested = "An object is used for at most 512 calls (of the dearest ones)";
         StringBuilder s = new StringBuilder("rule x=x x agree 0 0 1 agree 1 0 1 agree 2 0 1;".repeat(13));
@@ -555,6 +591,7 @@ public final class TreeSchoolDrawingEdges extends Bench {
         wipes();
         wipeKeepsTheTape();
         leastSlips();
+        slipsOfEachSign();
         slipsOfMany();
         marks();
         marksTheFirstOfEqual();
@@ -568,6 +605,7 @@ public final class TreeSchoolDrawingEdges extends Bench {
         counts();
         countsAtTheirMost();
         a512thCall();
+        readMe();
         dearCalls();
         finish("drawings, names and counts keep their boundaries");
     }

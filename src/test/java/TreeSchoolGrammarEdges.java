@@ -629,6 +629,19 @@ public final class TreeSchoolGrammarEdges extends Bench {
         dueFault("rule a=b agree 0 0 1 agree 0 1 1;", 2, 31);
     }
 
+    private static void slotsAreNumbers() {
+        tested = "LAW: 'agree' NUMBER NUMBER NUMBER (no NAME, no SIGN where a SLOT is due)";
+        String[] others = {"a", "b", "z", "aa", ";", "=", ".", "is", "agree", "word", "rule"};
+        for (String other : others) {
+            for (int slot = 0; slot <= 2; slot++) {
+                dueFault("rule a=b c agree 0 " + slot + " " + other + ";", 1, 21);
+                dueFault("rule a=b c is 0 " + slot + " " + other + ";", 1, 18);
+            }
+            dueFault("rule a=b c agree 0 " + other + " 1;", 1, 19);
+            dueFault("rule a=b c agree " + other + " 0 1;", 1, 17);
+        }
+    }
+
     private static void entriesUpTo40() {
         tested = "3 a 41st ENTRY (at 'word')";
         for (int n = 38; n <= 40; n++) {
@@ -685,6 +698,12 @@ public final class TreeSchoolGrammarEdges extends Bench {
         dueFault("rule a=b" + is.repeat(9) + ";", 3, 81);
         dueFault("rule a=b" + is.repeat(8) + " is", 3, 81);
         dueFault("rule a=b" + is.repeat(8) + " agree 7;", 3, 81);
+        // What is no law behind the eighth is no ninth law.
+        String[] others = {"", " ", " .", " isa", " 1", " c", " =", " word", " rule", " abcdefghijk", " 12", " is1"};
+        for (String other : others) {
+            dueFault("rule a=b" + is.repeat(8) + other, 1, other.length() < 2 ? 80 + other.length() : 81);
+            dueFault("rule a=b c" + agree.repeat(8) + other, 1, other.length() < 2 ? 106 + other.length() : 107);
+        }
         dueItems(("rule a=b" + is.repeat(8) + ";").repeat(3), 3);
         dueFault(("rule a=b" + is.repeat(8) + ";").repeat(2) + "rule a=b" + is.repeat(9) + ";", 3, 243);
     }
@@ -842,6 +861,26 @@ public final class TreeSchoolGrammarEdges extends Bench {
         dueCounts(x, 0, 3, 4, 0, 0, 0, 0, 0);
     }
 
+    private static void lawsAreNew() {
+        tested = "The tape .. is the GRAMMAR (no LAW of those ahead of it is left)";
+        String laws = " is 0 0 3 is 1 0 2 is 2 0 1 is 3 0 0";
+        String[] values = {"", " 0 0 1 0 2 0 3 0", " 0 1 1 1 2 1 3 1", " 0 2 1 2 2 2 3 2", " 0 3 1 3 2 3 3 3"};
+        for (String first : values) {
+            for (String second : values) {
+                for (int between = 0; between <= 1; between++) {
+                    TreeSchool x = with("rule s=t u" + laws + ";rule t=u" + laws + ";word a t;");
+                    if (between == 1) {
+                        dueGrammar(x, "word b t;", 0, 1);
+                    }
+                    dueGrammar(x, "rule s=t u;rule v=t;word a t" + first + ";word b u" + second + ";", 0, 4);
+                    dueRead(x, "a b", 1);
+                    dueSign(x, 0, 2, 0, 0, -1, -1, -1, -1);
+                    dueSign(x, 0, 1, 1, 3, -1, -1, -1, -1);
+                }
+            }
+        }
+    }
+
     private static void grammarRefused() {
         tested = "-1 less the place of its FAULT: all stays.";
         String[] texts = {"", ".", "word a b 9 0;", "word a b;".repeat(41), "rule a=a;", " ".repeat(1540),
@@ -916,6 +955,7 @@ public final class TreeSchoolGrammarEdges extends Bench {
         wrongFeatures();
         wrongSlots();
         slotsAlike();
+        slotsAreNumbers();
         entriesUpTo40();
         rulesUpTo30();
         thirtiethRuleCounts();
@@ -929,6 +969,7 @@ public final class TreeSchoolGrammarEdges extends Bench {
         loopsOfAnyNumbers();
         grammarCountsItems();
         grammarIsNew();
+        lawsAreNew();
         grammarRefused();
         kindOfFault();
         finish("tapes and grammars keep their boundaries");

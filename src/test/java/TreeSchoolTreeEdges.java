@@ -185,6 +185,24 @@ public final class TreeSchoolTreeEdges extends Bench {
         dueMade(" 0 0", " 0 3", " agree 0 1 2");
     }
 
+    private static void oneLawBrokenIsEnough() {
+        tested = "else the RULE makes nothing (whatever the other LAWS make)";
+        for (int broken = 0; broken < 4; broken++) {
+            for (int made = 0; made < 4; made++) {
+                for (int value = 0; value < 4 && made != broken; value++) {
+                    String left = " " + broken + " 0 " + made + " " + value;
+                    String right = " " + broken + " 1";
+                    String disagree = " agree " + broken + " 1 2";
+                    String give = " agree " + made + " 0 1";
+                    dueMade(left, right, disagree + give);
+                    dueMade(left, right, give + disagree);
+                    dueMade(left, right, " is " + broken + " 2 0" + give);
+                    dueMade(left, right, give + " is " + made + " 0 " + (value + 1) % 4);
+                }
+            }
+        }
+    }
+
     private static void agreeWithOne() {
         tested = "if just one has, the other one has it then, too";
         dueMade(" 0 0", "", " agree 0 0 1", 0, -1, -1, -1);
@@ -484,6 +502,32 @@ public final class TreeSchoolTreeEdges extends Bench {
         dueCounts(x, 1, 0, 1, 0, 0, 0, 0, 0);
     }
 
+    private static void treesBehindReadNone() {
+        tested = "NONE: it is none ..: all stays. (TREES that are told behind it)";
+        String[] none = {"", "dogs bark 2", "the dogs.", "bark the dog dog dog.", "a ".repeat(15)};
+        for (String text : none) {
+            TreeSchool x = with(TOY, "the dog barks");
+            dueRead(x, text, -1);
+            due("tree(0) behind [" + text + "]", x.tree(0), 6);
+            dueToyTree(x);
+            dueRead(x, text, -1);
+            due("mark() behind [" + text + "]", x.mark(), 6);
+            dueToyTree(x);
+            dueRead(x, text, -1);
+            dueBracket(x, "vp", 2, 3, true);
+            due("slips() behind [" + text + "]", x.slips(), 5);
+        }
+    }
+
+    private static void dueToyTree(TreeSchool x) {
+        dueNode(x, 0, 3, 0, 3, 0, 0, -1, -1, -1, -1);
+        dueNode(x, 1, 4, 0, 2, 1, 1, 0, -1, -1, -1);
+        dueNode(x, 2, 0, 0, 1, -1, 2, -1, -1, -1, -1);
+        dueNode(x, 3, 1, 1, 2, -2, 2, 0, -1, -1, -1);
+        dueNode(x, 4, 5, 2, 3, 3, 1, 0, -1, -1, -1);
+        dueNode(x, 5, 2, 2, 3, -4, 2, 0, -1, -1, -1);
+    }
+
     private static void readAgain() {
         tested = "The tape is a sentence (nothing of the one ahead is left)";
         TreeSchool x = with(PAIRS, "a ".repeat(14));
@@ -556,8 +600,30 @@ public final class TreeSchoolTreeEdges extends Bench {
             long due = Math.min(MANY, times * 333333333333333L);
             TreeSchool x = with("rule q=y s;" + threes + "word b y;".repeat(times), "b" + " a".repeat(8));
             due("trees() of " + times, x.trees(), due);
+            due("times(0, 9, 0) of " + times, x.times(0, 9, 0), due);
             x = with("rule q=s y;" + threes + "word b y;".repeat(times), "a ".repeat(8) + "b");
             due("trees() of " + times, x.trees(), due);
+            due("times(0, 9, 0) of " + times, x.times(0, 9, 0), due);
+        }
+    }
+
+    private static void productOfMany() {
+        tested = "10^15, if there are so many or more (a product of 10^15, of one more)";
+        // 4 times 10^13 trees of r.
+        String r = "rule r=x;".repeat(4) + "rule r=x r;" + "word a x;".repeat(10);
+        for (int times = 24; times <= 26; times++) {
+            TreeSchool x = with("rule q=y r;" + r + "word b y;".repeat(times), "b" + " a".repeat(13));
+            due("trees() of " + times, x.trees(), Math.min(MANY, times * (MANY / 25)));
+            due("times(0, 14, 0) of " + times, x.times(0, 14, 0), Math.min(MANY, times * (MANY / 25)));
+        }
+        // r has a hundred times its trees over a word less and 90, with e ahead 91: 90909090909091 over 7 words.
+        String nineties = "rule c=k;".repeat(9) + "rule r=k r;".repeat(10) + "rule r=c h;rule r=c;rule r=v h;rule h=u h;rule h=u;"
+                + "word a k;".repeat(10) + "word a u;" + "word e k;".repeat(10) + "word e u;word e v;";
+        for (int times = 10; times <= 11; times++) {
+            TreeSchool x = with("rule q=y r;" + nineties + "word b y;".repeat(times), "b e a a a a a a");
+            due("trees() of r", x.times(1, 8, 0), 90909090909091L);
+            due("trees() of " + times, x.trees(), Math.min(MANY, times * 90909090909091L));
+            due("times(0, 8, 0) of " + times, x.times(0, 8, 0), Math.min(MANY, times * 90909090909091L));
         }
     }
 
@@ -614,6 +680,30 @@ public final class TreeSchoolTreeEdges extends Bench {
             // So many shapes, with an entry of 40 for each word and a rule of 30 for each pair.
             double due = catalan[n - 1] * Math.pow(40, n) * Math.pow(30, n - 1);
             due("times(0, " + n + ", 0)", x.times(0, n, 0), due >= MANY ? MANY : (long) due);
+        }
+    }
+
+    private static void timesOfEverySign() {
+        tested = "Of how many TREES SIGN k of i, j is the top (of many SIGNS, each with its own TREES)";
+        StringBuilder s = new StringBuilder("rule s=x y agree 0 0 1 agree 1 0 1 agree 2 0 2 agree 3 0 2;");
+        // Of the value n there are n + 1 entries, in the order of the signs and against it.
+        for (int n = 0; n < 6; n++) {
+            s.append(("word a x 0 " + n / 4 + " 1 " + n % 4 + ";").repeat(n + 1));
+        }
+        for (int n = 4; n >= 0; n--) {
+            s.append(("word b y 2 " + n / 4 + " 3 " + n % 4 + ";").repeat(n + 1));
+        }
+        TreeSchool x = with(s.toString());
+        dueRead(x, "a b a b", 0);
+        for (int i = 0; i <= 2; i += 2) {
+            due("signs(" + i + ", " + (i + 2) + ")", x.signs(i, i + 2), 30);
+            for (int k = 0; k < 30; k++) {
+                due("times(" + i + ", " + (i + 2) + ", " + k + ")", x.times(i, i + 2, k), (k / 5 + 1) * (k % 5 + 1));
+                dueSign(x, i, i + 2, k, 0, k / 20, k / 5 % 4, k % 5 / 4, k % 5 % 4);
+            }
+        }
+        for (int k = 0; k < 5; k++) {
+            due("times(3, 4, " + k + ")", x.times(3, 4, k), k + 1);
         }
     }
 
@@ -746,6 +836,40 @@ public final class TreeSchoolTreeEdges extends Bench {
         due("held()", x.held(), 432);
     }
 
+    private static void deepestTreeToTheRight() {
+        tested = "NODE m .. (every NODE of the first of the largest TREES)";
+        // The chain over a word, then that over all the words behind it.
+        dueChain(0, 0, 0, 14, 0);
+        for (int i = 0; i < 13; i++) {
+            dueChain(0, 16 + 32 * i, i, i + 1, 16 * (i + 1));
+            dueChain(0, 32 + 32 * i, i + 1, 14, 16 * (i + 1));
+        }
+    }
+
+    private static void deepestTreeToTheLeft() {
+        tested = "NODE m .. (every NODE of the last of the largest TREES)";
+        for (int j = 14; j >= 1; j--) {
+            dueChain(742899, 16 * (14 - j), 0, j, 16 * (14 - j));
+        }
+        for (int i = 1; i < 14; i++) {
+            dueChain(742899, 208 + 16 * i, i, i + 1, 16 * (14 - i));
+        }
+    }
+
+    // Of that tree: from node m on sixteen of one span, each in the one ahead of it.
+    private static void dueChain(int tree, int m, int i, int j, int depth) {
+        StringBuilder s = new StringBuilder();
+        for (char c = 'a'; c < 'p'; c++) {
+            s.append("rule ").append(c).append('=').append((char) (c + 1)).append(" agree 0 0 1;");
+        }
+        TreeSchool x = with(s + "rule p=a a agree 0 0 1 agree 0 0 2;word x p 0 2;", "x ".repeat(14));
+        due("tree(" + tree + ")", x.tree(tree), 432);
+        for (int k = 0; k < 16; k++) {
+            int by = k < 15 ? k : j == i + 1 ? -1 : 15;
+            dueNode(x, m + k, k, i, j, by, depth + k, 2, -1, -1, -1);
+        }
+    }
+
     private static void nodeNone() {
         tested = "node: NoSuchElementException: there is none such, or another what.";
         TreeSchool x = with(TOY, "the dog barks");
@@ -776,6 +900,7 @@ public final class TreeSchoolTreeEdges extends Bench {
         oneWordByAnEntry();
         splits();
         agreeWithBoth();
+        oneLawBrokenIsEnough();
         agreeWithOne();
         lawsOfOnePart();
         isALaw();
@@ -791,14 +916,17 @@ public final class TreeSchoolTreeEdges extends Bench {
         readRight();
         readLarge();
         readNone();
+        treesBehindReadNone();
         readAgain();
         treesWithoutASentence();
         treesUpToMany();
         treesJustBelowMany();
         productsJustBelowMany();
+        productOfMany();
         signsOfSpans();
         signNone();
         timesUpToMany();
+        timesOfEverySign();
         timesNone();
         treeUpTo999999();
         treeOfMany();
@@ -806,6 +934,8 @@ public final class TreeSchoolTreeEdges extends Bench {
         nodesInOrder();
         valuesOfNodes();
         deepestTree();
+        deepestTreeToTheRight();
+        deepestTreeToTheLeft();
         nodeNone();
         finish("sentences and trees keep their boundaries");
     }
